@@ -16,8 +16,6 @@ public final class IntegerSplitter {
     private final long[] result;
     private final long[] quotient;
     private final long[] rest;
-    private final CommonDivisor divisor;
-    private final ModularParts parts;
     private final Splitter splitter;
     private final Factors told;
     private final Factors untold;
@@ -28,16 +26,14 @@ public final class IntegerSplitter {
         result = new long[2 * PLACES];
         quotient = new long[PLACES];
         rest = new long[PLACES];
-        divisor = new CommonDivisor();
-        parts = new ModularParts();
-        splitter = new Splitter(divisor, parts);
+        splitter = new Splitter();
         told = new Factors();
         untold = new Factors();
     }
 
     public int put(int r, int k, int c) throws IndexOutOfBoundsException, IllegalArgumentException {
-        refuseRegister(r);
-        refusePlace(k);
+        requireRegister(r);
+        requirePlace(k);
         if (c < -LARGEST || c > LARGEST) {
             throw new IllegalArgumentException();
         }
@@ -46,21 +42,21 @@ public final class IntegerSplitter {
     }
 
     public int coefficient(int r, int k) throws IndexOutOfBoundsException {
-        refuseRegister(r);
-        refusePlace(k);
+        requireRegister(r);
+        requirePlace(k);
         return (int) registers[r][k];
     }
 
     public int degree(int r) throws IndexOutOfBoundsException {
-        refuseRegister(r);
+        requireRegister(r);
         return Rows.degreeOf(registers[r]);
     }
 
     public int add(int to, int a, int b, boolean minus)
             throws IndexOutOfBoundsException, IllegalStateException {
-        refuseRegister(to);
-        refuseRegister(a);
-        refuseRegister(b);
+        requireRegister(to);
+        requireRegister(a);
+        requireRegister(b);
         Arrays.fill(result, 0);
         for (int k = 0; k < PLACES; k++) {
             result[k] = minus ? registers[a][k] - registers[b][k] : registers[a][k] + registers[b][k];
@@ -69,9 +65,9 @@ public final class IntegerSplitter {
     }
 
     public int multiply(int to, int a, int b) throws IndexOutOfBoundsException, IllegalStateException {
-        refuseRegister(to);
-        refuseRegister(a);
-        refuseRegister(b);
+        requireRegister(to);
+        requireRegister(a);
+        requireRegister(b);
         Arrays.fill(result, 0);
         for (int i = 0; i < PLACES; i++) {
             for (int j = 0; j < PLACES; j++) {
@@ -82,8 +78,8 @@ public final class IntegerSplitter {
     }
 
     public int derive(int to, int a) throws IndexOutOfBoundsException, IllegalStateException {
-        refuseRegister(to);
-        refuseRegister(a);
+        requireRegister(to);
+        requireRegister(a);
         Arrays.fill(result, 0);
         Rows.slopeInto(registers[a], result);
         return keep(to, result);
@@ -91,9 +87,9 @@ public final class IntegerSplitter {
 
     public int shift(int to, int a, int h)
             throws IndexOutOfBoundsException, IllegalArgumentException, IllegalStateException {
-        refuseRegister(to);
-        refuseRegister(a);
-        refuseFar(h);
+        requireRegister(to);
+        requireRegister(a);
+        requireNear(h);
         Arrays.fill(result, 0);
         for (int k = PLACES - 1; k >= 0; k--) {
             // Horner's rule with x + h in the place of x
@@ -107,9 +103,9 @@ public final class IntegerSplitter {
 
     public int divide(int to, int a, int b)
             throws IndexOutOfBoundsException, ArithmeticException, IllegalStateException {
-        refuseRegister(to);
-        refuseRegister(a);
-        refuseRegister(b);
+        requireRegister(to);
+        requireRegister(a);
+        requireRegister(b);
         if (!Rows.findQuotient(registers[a], registers[b], quotient, rest)) {
             throw new ArithmeticException();
         }
@@ -117,15 +113,15 @@ public final class IntegerSplitter {
     }
 
     public int common(int to, int a, int b) throws IndexOutOfBoundsException, IllegalStateException {
-        refuseRegister(to);
-        refuseRegister(a);
-        refuseRegister(b);
-        return keep(to, divisor.find(registers[a], registers[b]));
+        requireRegister(to);
+        requireRegister(a);
+        requireRegister(b);
+        return keep(to, splitter.divisor.find(registers[a], registers[b]));
     }
 
     public long value(int r, int x) throws IndexOutOfBoundsException, IllegalArgumentException {
-        refuseRegister(r);
-        refuseFar(x);
+        requireRegister(r);
+        requireNear(x);
         long sum = 0;
         for (int k = PLACES - 1; k >= 0; k--) {
             sum = sum * x + registers[r][k];
@@ -134,12 +130,12 @@ public final class IntegerSplitter {
     }
 
     public int content(int r) throws IndexOutOfBoundsException {
-        refuseRegister(r);
+        requireRegister(r);
         return (int) Rows.contentOf(registers[r]);
     }
 
     public int factor(int r) throws IndexOutOfBoundsException, ArithmeticException {
-        refuseRegister(r);
+        requireRegister(r);
         if (Rows.degreeOf(registers[r]) < 0) {
             throw new ArithmeticException();
         }
@@ -152,12 +148,12 @@ public final class IntegerSplitter {
     }
 
     public int multiplicity(int i) throws NoSuchElementException {
-        refuseFactor(i);
+        requireFactor(i);
         return told.times[i];
     }
 
     public int factorAt(int i, int k) throws NoSuchElementException {
-        refuseFactor(i);
+        requireFactor(i);
         if (k == -1) {
             return Rows.degreeOf(told.rows[i]);
         }
@@ -165,8 +161,8 @@ public final class IntegerSplitter {
     }
 
     public boolean take(int to, int i) throws IndexOutOfBoundsException, NoSuchElementException {
-        refuseRegister(to);
-        refuseFactor(i);
+        requireRegister(to);
+        requireFactor(i);
         if (!isWithinLimits(told.rows[i])) {
             return false;
         }
@@ -175,7 +171,7 @@ public final class IntegerSplitter {
     }
 
     public boolean prime(int r) throws IndexOutOfBoundsException {
-        refuseRegister(r);
+        requireRegister(r);
         long[] row = registers[r];
         if (Rows.degreeOf(row) < 1) {
             return isPrimeNumber(row[0] < 0 ? -row[0] : row[0]);
@@ -189,14 +185,14 @@ public final class IntegerSplitter {
     }
 
     public int modular(int r, int p) throws IndexOutOfBoundsException, IllegalArgumentException {
-        refuseRegister(r);
-        refuseModulus(p);
-        return parts.countOf(registers[r], p);
+        requireRegister(r);
+        requireModulus(p);
+        return splitter.parts.countOf(registers[r], p);
     }
 
     public int roots(int r, int p) throws IndexOutOfBoundsException, IllegalArgumentException {
-        refuseRegister(r);
-        refuseModulus(p);
+        requireRegister(r);
+        requireModulus(p);
         int count = 0;
         for (int x = 0; x < p; x++) {
             long sum = 0;
@@ -208,31 +204,31 @@ public final class IntegerSplitter {
         return count;
     }
 
-    private static void refuseRegister(int r) throws IndexOutOfBoundsException {
+    private static void requireRegister(int r) throws IndexOutOfBoundsException {
         if (r < 0 || r >= REGISTERS) {
             throw new IndexOutOfBoundsException();
         }
     }
 
-    private static void refusePlace(int k) throws IndexOutOfBoundsException {
+    private static void requirePlace(int k) throws IndexOutOfBoundsException {
         if (k < 0 || k >= PLACES) {
             throw new IndexOutOfBoundsException();
         }
     }
 
-    private static void refuseFar(int x) throws IllegalArgumentException {
+    private static void requireNear(int x) throws IllegalArgumentException {
         if (x < -FARTHEST || x > FARTHEST) {
             throw new IllegalArgumentException();
         }
     }
 
-    private static void refuseModulus(int p) throws IllegalArgumentException {
+    private static void requireModulus(int p) throws IllegalArgumentException {
         if (p > LARGEST_PRIME || !isPrimeNumber(p)) {
             throw new IllegalArgumentException();
         }
     }
 
-    private void refuseFactor(int i) throws NoSuchElementException {
+    private void requireFactor(int i) throws NoSuchElementException {
         if (i < 0 || i >= told.count) {
             throw new NoSuchElementException();
         }
@@ -283,15 +279,13 @@ public final class IntegerSplitter {
             if (count >= MOST) {
                 return;
             }
-            long[] free = rows[count];
             int i = count;
             while (i > 0 && standsBefore(row, rows[i - 1])) {
-                rows[i] = rows[i - 1];
+                Rows.copyInto(rows[i - 1], rows[i]);
                 times[i] = times[i - 1];
                 i--;
             }
-            Rows.copyInto(row, free);
-            rows[i] = free;
+            Rows.copyInto(row, rows[i]);
             times[i] = often;
             count++;
         }
@@ -787,8 +781,9 @@ public final class IntegerSplitter {
             101, 103, 107, 109, 113, 127, 131, 137, 139, 149, 151, 157, 163, 167, 173, 179, 181, 191, 193,
             197, 199};
 
-        private final CommonDivisor divisor;
-        private final ModularParts parts;
+        final CommonDivisor divisor = new CommonDivisor();
+        final ModularParts parts = new ModularParts();
+
         private final Lifting lifting = new Lifting();
         private final long[] whole = new long[PLACES];
         private final long[] open = new long[PLACES];
@@ -796,11 +791,6 @@ public final class IntegerSplitter {
         private final long[] candidate = new long[PLACES];
         private final long[] quotient = new long[PLACES];
         private final long[] rest = new long[PLACES];
-
-        Splitter(CommonDivisor divisor, ModularParts parts) {
-            this.divisor = divisor;
-            this.parts = parts;
-        }
 
         void takeApart(long[] row, Factors factors) {
             Rows.copyInto(row, whole);

@@ -45,7 +45,7 @@ public final class FactorTest {
         // a factor beyond the limits of the registers
         splits("1 1*[-1, 1] 1*[50003, 100003, 50001]", -50003, -50000, 50002, 50001);
         splits("-3 3*[1, 1] 2*[-2, 0, 1]",
-            Expect.product(Expect.poly(-3), Expect.poly(-2, 0, 1), Expect.poly(-2, 0, 1), Expect.poly(1, 3, 3, 1)));
+            Expect.product(Expect.poly(-3), Expect.poly(4, 0, -4, 0, 1), Expect.poly(1, 3, 3, 1)));
     }
 
     /** The lesser degree comes first, then the lesser coefficient from the leading one downwards. */

@@ -154,10 +154,13 @@ public final class ReckoningTest {
         Expect.answer("divide by what leads with -1: register 2", "[-1, -1]", () -> Expect.register(x, 2));
         Expect.load(x, 1, 2, 1);
         Expect.refusal("divide with a remainder", x, Expect.ARITHMETIC, () -> x.divide(2, 0, 1));
-        // its steps grow by 99999 each: they must not run over and seem to leave nothing
         Expect.load(x, 0, 1, 0, 0, 0, 0, 0, 0, 99999);
         Expect.load(x, 1, 99999, 1);
         Expect.refusal("divide with long steps", x, Expect.ARITHMETIC, () -> x.divide(2, 0, 1));
+        // the remainder is -2^112, which would be 0 in a long that runs over
+        Expect.load(x, 0, 0, 0, 0, 0, 0, 0, 0, 1);
+        Expect.load(x, 1, 65536, 1);
+        Expect.refusal("divide with steps that run over", x, Expect.ARITHMETIC, () -> x.divide(2, 0, 1));
         Expect.load(x, 0, -50003, -50000, 50002, 50001);
         Expect.load(x, 1, -1, 1);
         Expect.refusal("divide beyond", x, Expect.STATE, () -> x.divide(2, 0, 1));
