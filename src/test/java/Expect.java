@@ -119,6 +119,25 @@ final class Expect {
         answer(what + ": all that can be seen after it", before, () -> all(x));
     }
 
+    /** Runs the test of one sentence of the document by itself, and names the sentence if it doesn't hold. */
+    static void sentence(String words, Runnable test) {
+        int rightBefore = right;
+        int wrongBefore = wrong;
+        try {
+            test.run();
+        } catch (RuntimeException e) {
+            wrong++;
+            System.out.println("a call that should answer threw " + e.getClass().getSimpleName());
+        }
+        if (wrong == wrongBefore && right == rightBefore) {
+            wrong++;
+            System.out.println("nothing was looked at");
+        }
+        if (wrong > wrongBefore) {
+            System.out.println("DOES NOT HOLD: " + words);
+        }
+    }
+
     static void end() {
         System.out.println(right + " answers as due, " + wrong + " not");
         if (wrong != 0 || right == 0) {
