@@ -103,15 +103,17 @@ public final class FactorTest {
     }
 
     private static void wrongInputs() {
-        IntegerSplitter x = Expect.loaded(-1, 0, 1);
-        x.factor(0);
         for (int wrong : new int[] {-1, 4, Integer.MIN_VALUE, Integer.MAX_VALUE}) {
+            IntegerSplitter x = Expect.loaded(-1, 0, 1);
+            x.factor(0);
             Expect.refusal("factor(" + wrong + ")", x, Expect.INDEX, () -> x.factor(wrong));
             Expect.refusal("prime(" + wrong + ")", x, Expect.INDEX, () -> x.prime(wrong));
             Expect.refusal("take(" + wrong + ", 0)", x, Expect.INDEX, () -> x.take(wrong, 0));
             Expect.refusal("take(" + wrong + ", 9)", x, Expect.INDEX, () -> x.take(wrong, 9));
         }
         for (int wrong : new int[] {-1, 2, 7, Integer.MIN_VALUE, Integer.MAX_VALUE}) {
+            IntegerSplitter x = Expect.loaded(-1, 0, 1);
+            x.factor(0);
             Expect.refusal("multiplicity(" + wrong + ")", x, Expect.ELEMENT, () -> x.multiplicity(wrong));
             Expect.refusal("factorAt(" + wrong + ", 0)", x, Expect.ELEMENT, () -> x.factorAt(wrong, 0));
             Expect.refusal("factorAt(" + wrong + ", 9)", x, Expect.ELEMENT, () -> x.factorAt(wrong, 9));

@@ -61,8 +61,8 @@ public final class ModularTest {
     }
 
     private static void wrongInputs() {
-        IntegerSplitter x = Expect.loaded(1, 1);
         for (int r : new int[] {-1, 4, Integer.MIN_VALUE, Integer.MAX_VALUE}) {
+            IntegerSplitter x = Expect.loaded(1, 1);
             Expect.refusal("modular(" + r + ", 2)", x, Expect.INDEX, () -> x.modular(r, 2));
             Expect.refusal("modular(" + r + ", 4)", x, Expect.INDEX, () -> x.modular(r, 4));
             Expect.refusal("roots(" + r + ", 2)", x, Expect.INDEX, () -> x.roots(r, 2));
@@ -70,6 +70,7 @@ public final class ModularTest {
         }
         int[] wrong = {-13, -2, -1, 0, 1, 4, 6, 8, 9, 10, 12, 14, 15, 17, 19, 2147483647, Integer.MIN_VALUE};
         for (int p : wrong) {
+            IntegerSplitter x = Expect.loaded(1, 1);
             Expect.refusal("modular(0, " + p + ")", x, Expect.ARGUMENT, () -> x.modular(0, p));
             Expect.refusal("modular(3, " + p + ")", x, Expect.ARGUMENT, () -> x.modular(3, p));
             Expect.refusal("roots(0, " + p + ")", x, Expect.ARGUMENT, () -> x.roots(0, p));

@@ -3,38 +3,67 @@ import java.util.Arrays;
 import java.util.Random;
 
 /**
- * Promises 2 to 12 and 17 in runs of 512 calls with right and wrong inputs, against a plain model in numbers of
- * any length; after each call all registers are compared. What factor tells is multiplied together again.
+ * Promises 2 to 12 and 17 in runs of some 500 calls with right and wrong inputs, against a plain model in numbers
+ * of any length; after each call what it writes is compared, at the end all. What factor tells is multiplied
+ * together again.
  */
 public final class RandomRunsTest {
     private static final BigInteger LIMIT = BigInteger.valueOf(99999);
     private static final BigInteger[] ZERO = {};
+    // a step takes at most 92 calls with what is read after it, the end of a run 36: no run goes beyond 512
+    private static final int ENOUGH = 380;
 
     private final Random random;
     private final IntegerSplitter x = new IntegerSplitter();
     private final BigInteger[][] model = {ZERO, ZERO, ZERO, ZERO};
+
+    private int calls = 0;
 
     private RandomRunsTest(long seed) {
         random = new Random(seed);
     }
 
     public static void main(String[] args) {
-        for (int seed = 1; seed <= 60; seed++) {
+        for (int seed = 1; seed <= 1200; seed++) {
             RandomRunsTest run = new RandomRunsTest(seed);
-            // what is read for the comparisons changes nothing
-            for (int call = 0; call < 512; call++) {
-                run.step();
-                run.compareRegisters("run " + seed + ", call " + call);
+            run.begin();
+            while (run.calls < ENOUGH) {
+                int to = run.step();
+                if (!isWrong(to)) {
+                    run.compareRegister("run " + seed + ", call " + run.calls, to);
+                }
+            }
+            for (int r = 0; r < 4; r++) {
+                run.compareRegister("the end of run " + seed, r);
             }
         }
         Expect.end();
+    }
+
+    private IntegerSplitter used() {
+        calls++;
+        return x;
+    }
+
+    /** Some polynomials to begin with, which a run of this length would hardly put together. */
+    private void begin() {
+        for (int r = 0; r < 3; r++) {
+            BigInteger[] row = padded(ZERO, 1 + random.nextInt(6));
+            for (int k = 0; k < row.length; k++) {
+                int c = random.nextInt(9) - 4;
+                row[k] = BigInteger.valueOf(c);
+                used().put(r, k, c);
+            }
+            model[r] = trimmed(row);
+        }
     }
 
     private int register() {
         return random.nextInt(60) == 0 ? random.nextBoolean() ? -1 : 4 : random.nextInt(4);
     }
 
-    private void step() {
+    /** Answers the register that the call names to be written, which may be none. */
+    private int step() {
         int to = register();
         int a = register();
         int b = register();
@@ -44,31 +73,32 @@ public final class RandomRunsTest {
             case 4 -> {
                 boolean minus = random.nextBoolean();
                 String due = wrong || isWrong(b) ? Expect.INDEX : keep(to, sum(model[a], model[b], minus));
-                Expect.answer("add", due, () -> x.add(to, a, b, minus));
+                Expect.answer("add", due, () -> used().add(to, a, b, minus));
             }
             case 5, 6 -> {
                 String due = wrong || isWrong(b) ? Expect.INDEX : keep(to, product(model[a], model[b]));
-                Expect.answer("multiply", due, () -> x.multiply(to, a, b));
+                Expect.answer("multiply", due, () -> used().multiply(to, a, b));
             }
             case 7 -> {
                 String due = wrong ? Expect.INDEX : keep(to, derivative(model[a]));
-                Expect.answer("derive", due, () -> x.derive(to, a));
+                Expect.answer("derive", due, () -> used().derive(to, a));
             }
             case 8 -> {
                 int h = random.nextInt(23) - 11;
                 String due = wrong ? Expect.INDEX : Math.abs(h) > 9 ? Expect.ARGUMENT : keep(to, moved(model[a], h));
-                Expect.answer("shift", due, () -> x.shift(to, a, h));
+                Expect.answer("shift", due, () -> used().shift(to, a, h));
             }
             case 9 -> {
                 String due = wrong || isWrong(b) ? Expect.INDEX : keepQuotient(to, model[a], model[b]);
-                Expect.answer("divide", due, () -> x.divide(to, a, b));
+                Expect.answer("divide", due, () -> used().divide(to, a, b));
             }
             case 10 -> {
                 String due = wrong || isWrong(b) ? Expect.INDEX : keep(to, common(model[a], model[b]));
-                Expect.answer("common", due, () -> x.common(to, a, b));
+                Expect.answer("common", due, () -> used().common(to, a, b));
             }
             default -> look(a, to);
         }
+        return to;
     }
 
     private static boolean isWrong(int r) {
@@ -88,27 +118,27 @@ public final class RandomRunsTest {
             row[k] = BigInteger.valueOf(c);
             due = keep(r, trimmed(row));
         }
-        Expect.answer("put", due, () -> x.put(r, k, c));
+        Expect.answer("put", due, () -> used().put(r, k, c));
     }
 
     private void look(int r, int to) {
         int at = random.nextInt(23) - 11;
         if (isWrong(r)) {
-            Expect.answer("value", Expect.INDEX, () -> x.value(r, at));
-            Expect.answer("content", Expect.INDEX, () -> x.content(r));
-            Expect.answer("factor", Expect.INDEX, () -> x.factor(r));
+            Expect.answer("value", Expect.INDEX, () -> used().value(r, at));
+            Expect.answer("content", Expect.INDEX, () -> used().content(r));
+            Expect.answer("factor", Expect.INDEX, () -> used().factor(r));
             return;
         }
-        Expect.answer("value", Math.abs(at) > 9 ? Expect.ARGUMENT : valueOf(model[r], at), () -> x.value(r, at));
-        Expect.answer("content", content(model[r]), () -> x.content(r));
+        Expect.answer("value", Math.abs(at) > 9 ? Expect.ARGUMENT : valueOf(model[r], at), () -> used().value(r, at));
+        Expect.answer("content", content(model[r]), () -> used().content(r));
         if (model[r].length == 0) {
-            Expect.answer("factor", Expect.ARITHMETIC, () -> x.factor(r));
+            Expect.answer("factor", Expect.ARITHMETIC, () -> used().factor(r));
             return;
         }
-        int count = x.factor(r);
-        BigInteger[] whole = {BigInteger.valueOf(x.unit())};
+        int count = used().factor(r);
+        BigInteger[] whole = {BigInteger.valueOf(used().unit())};
         for (int i = 0; i < count; i++) {
-            for (int times = 0; times < x.multiplicity(i); times++) {
+            for (int times = 0; times < used().multiplicity(i); times++) {
                 whole = product(whole, factor(i));
             }
         }
@@ -116,17 +146,17 @@ public final class RandomRunsTest {
         Expect.answer("the product of the factors", Arrays.toString(model[r]), () -> Arrays.toString(again));
         int taken = random.nextInt(8);
         if (isWrong(to) || taken >= count) {
-            Expect.answer("take", isWrong(to) ? Expect.INDEX : Expect.ELEMENT, () -> x.take(to, taken));
+            Expect.answer("take", isWrong(to) ? Expect.INDEX : Expect.ELEMENT, () -> used().take(to, taken));
         } else {
             boolean due = !keep(to, factor(taken)).equals(Expect.STATE);
-            Expect.answer("take", due, () -> x.take(to, taken));
+            Expect.answer("take", due, () -> used().take(to, taken));
         }
     }
 
     private BigInteger[] factor(int i) {
         BigInteger[] row = new BigInteger[8];
         for (int k = 0; k < 8; k++) {
-            row[k] = BigInteger.valueOf(x.factorAt(i, k));
+            row[k] = BigInteger.valueOf(used().factorAt(i, k));
         }
         return trimmed(row);
     }
@@ -149,12 +179,10 @@ public final class RandomRunsTest {
         return quotient == null ? Expect.ARITHMETIC : keep(to, quotient);
     }
 
-    private void compareRegisters(String where) {
-        for (int r = 0; r < 4; r++) {
-            int at = r;
-            Expect.answer(where + ": register " + r, Arrays.toString(model[r]), () -> Expect.register(x, at));
-            Expect.answer(where + ": degree " + r, model[r].length - 1, () -> x.degree(at));
-        }
+    private void compareRegister(String where, int r) {
+        calls += 8;
+        Expect.answer(where + ": register " + r, Arrays.toString(model[r]), () -> Expect.register(x, r));
+        Expect.answer(where + ": degree " + r, model[r].length - 1, () -> used().degree(r));
     }
 
     private static BigInteger[] padded(BigInteger[] row, int length) {

@@ -4,9 +4,13 @@ public final class ReckoningTest {
         wrongRegisters();
         add();
         multiply();
+        multiplyGreatNumbers();
         derive();
         shift();
         divide();
+        divideByNumbers();
+        divideWithRemainders();
+        divideGreatNumbers();
         common();
         commonOfUnluckyPrimes();
         value();
@@ -15,9 +19,9 @@ public final class ReckoningTest {
     }
 
     private static void wrongRegisters() {
-        IntegerSplitter x = Expect.loaded(3, 1);
         for (int r : new int[] {-1, 4, Integer.MIN_VALUE, Integer.MAX_VALUE}) {
             for (int place = 0; place < 3; place++) {
+                IntegerSplitter x = Expect.loaded(3, 1);
                 int to = place == 0 ? r : 1;
                 int a = place == 1 ? r : 0;
                 int b = place == 2 ? r : 0;
@@ -26,15 +30,18 @@ public final class ReckoningTest {
                 Expect.refusal("multiply" + where, x, Expect.INDEX, () -> x.multiply(to, a, b));
                 Expect.refusal("divide" + where, x, Expect.INDEX, () -> x.divide(to, a, b));
                 Expect.refusal("common" + where, x, Expect.INDEX, () -> x.common(to, a, b));
+                IntegerSplitter y = Expect.loaded(3, 1);
                 if (place < 2) {
-                    Expect.refusal("derive" + where, x, Expect.INDEX, () -> x.derive(to, a));
-                    Expect.refusal("shift" + where, x, Expect.INDEX, () -> x.shift(to, a, 1));
-                    Expect.refusal("shift" + where + " by 10", x, Expect.INDEX, () -> x.shift(to, a, 10));
+                    Expect.refusal("derive" + where, y, Expect.INDEX, () -> y.derive(to, a));
+                    Expect.refusal("shift" + where, y, Expect.INDEX, () -> y.shift(to, a, 1));
+                    Expect.refusal("shift" + where + " by 10", y, Expect.INDEX, () -> y.shift(to, a, 10));
                 }
             }
+            IntegerSplitter x = Expect.loaded(3, 1);
             Expect.refusal("value(" + r + ", 10)", x, Expect.INDEX, () -> x.value(r, 10));
             Expect.refusal("content(" + r + ")", x, Expect.INDEX, () -> x.content(r));
         }
+        IntegerSplitter x = Expect.loaded(3, 1);
         Expect.refusal("divide(4, 0, 2), by 0 too", x, Expect.INDEX, () -> x.divide(4, 0, 2));
     }
 
@@ -73,7 +80,10 @@ public final class ReckoningTest {
         Expect.load(x, 0, 0, 0, 0, 0, 0, 0, 0, 1);
         Expect.refusal("multiply to degree 14", x, Expect.STATE, () -> x.multiply(0, 0, 0));
         Expect.answer("multiply degree 7 by 0", -1, () -> x.multiply(0, 0, 3));
-        Expect.load(x, 0, 333);
+    }
+
+    private static void multiplyGreatNumbers() {
+        IntegerSplitter x = Expect.loaded(333);
         Expect.load(x, 1, 0, 300);
         Expect.answer("multiply to 99900", 1, () -> x.multiply(2, 0, 1));
         Expect.load(x, 1, 0, -301);
@@ -121,8 +131,9 @@ public final class ReckoningTest {
         Expect.load(x, 0, 99999, 0, 0, 0, 0, 0, 0, 99999);
         Expect.refusal("shift far beyond", x, Expect.STATE, () -> x.shift(1, 0, -9));
         for (int h : new int[] {10, -10, Integer.MIN_VALUE, Integer.MAX_VALUE}) {
-            Expect.refusal("shift by " + h, x, Expect.ARGUMENT, () -> x.shift(1, 0, h));
-            Expect.refusal("shift 0 by " + h, x, Expect.ARGUMENT, () -> x.shift(1, 3, h));
+            IntegerSplitter y = Expect.loaded(99999, 0, 0, 0, 0, 0, 0, 99999);
+            Expect.refusal("shift by " + h, y, Expect.ARGUMENT, () -> y.shift(1, 0, h));
+            Expect.refusal("shift 0 by " + h, y, Expect.ARGUMENT, () -> y.shift(1, 3, h));
         }
     }
 
@@ -137,7 +148,10 @@ public final class ReckoningTest {
         Expect.answer("divide 0: register 2", "[]", () -> Expect.register(x, 2));
         Expect.refusal("divide by 0", x, Expect.ARITHMETIC, () -> x.divide(1, 0, 3));
         Expect.refusal("divide 0 by 0", x, Expect.ARITHMETIC, () -> x.divide(1, 3, 3));
-        Expect.load(x, 0, 4, 6);
+    }
+
+    private static void divideByNumbers() {
+        IntegerSplitter x = Expect.loaded(4, 6);
         Expect.load(x, 1, -2);
         Expect.answer("divide by a number", 1, () -> x.divide(2, 0, 1));
         Expect.answer("divide by a number: register 2", "[-2, -3]", () -> Expect.register(x, 2));
@@ -145,8 +159,11 @@ public final class ReckoningTest {
         Expect.refusal("divide by a number that isn't in all", x, Expect.ARITHMETIC, () -> x.divide(2, 0, 1));
         Expect.load(x, 1, 4, 6, 1);
         Expect.refusal("divide by a greater degree", x, Expect.ARITHMETIC, () -> x.divide(2, 0, 1));
+    }
+
+    private static void divideWithRemainders() {
         // 2 x + 2 divides x x - 1 only with fractions
-        Expect.load(x, 0, -1, 0, 1);
+        IntegerSplitter x = Expect.loaded(-1, 0, 1);
         Expect.load(x, 1, 2, 2);
         Expect.refusal("divide with fractions", x, Expect.ARITHMETIC, () -> x.divide(2, 0, 1));
         Expect.load(x, 1, 1, -1);
@@ -154,7 +171,10 @@ public final class ReckoningTest {
         Expect.answer("divide by what leads with -1: register 2", "[-1, -1]", () -> Expect.register(x, 2));
         Expect.load(x, 1, 2, 1);
         Expect.refusal("divide with a remainder", x, Expect.ARITHMETIC, () -> x.divide(2, 0, 1));
-        Expect.load(x, 0, 1, 0, 0, 0, 0, 0, 0, 99999);
+    }
+
+    private static void divideGreatNumbers() {
+        IntegerSplitter x = Expect.loaded(1, 0, 0, 0, 0, 0, 0, 99999);
         Expect.load(x, 1, 99999, 1);
         Expect.refusal("divide with long steps", x, Expect.ARITHMETIC, () -> x.divide(2, 0, 1));
         // the remainder is -2^112, which would be 0 in a long that runs over

@@ -3,6 +3,7 @@ public final class RegisterTest {
     public static void main(String[] args) {
         newObject();
         put();
+        putWrongly();
         coefficientAndDegree();
         objectsAreApart();
         Expect.end();
@@ -33,18 +34,24 @@ public final class RegisterTest {
         Expect.answer("put(3, 0, 0)", -1, () -> x.put(3, 0, 0));
         Expect.answer("put(3, 0, 1)", 0, () -> x.put(3, 0, 1));
         Expect.answer("register 2", "[]", () -> Expect.register(x, 2));
+    }
+
+    private static void putWrongly() {
         int[] places = {-1, 8, Integer.MIN_VALUE, Integer.MAX_VALUE};
         int[] registers = {-1, 4, Integer.MIN_VALUE, Integer.MAX_VALUE};
         for (int r : registers) {
+            IntegerSplitter x = Expect.loaded(1);
             Expect.refusal("put(" + r + ", 0, 1)", x, Expect.INDEX, () -> x.put(r, 0, 1));
             Expect.refusal("put(" + r + ", 0, 100000)", x, Expect.INDEX, () -> x.put(r, 0, 100000));
         }
         for (int k : places) {
+            IntegerSplitter x = Expect.loaded(1);
             Expect.refusal("put(0, " + k + ", 1)", x, Expect.INDEX, () -> x.put(0, k, 1));
             Expect.refusal("put(0, " + k + ", 100000)", x, Expect.INDEX, () -> x.put(0, k, 100000));
         }
         int[] numbers = {100000, -100000, Integer.MIN_VALUE, Integer.MAX_VALUE};
         for (int c : numbers) {
+            IntegerSplitter x = Expect.loaded(1);
             Expect.refusal("put(0, 0, " + c + ")", x, Expect.ARGUMENT, () -> x.put(0, 0, c));
         }
     }

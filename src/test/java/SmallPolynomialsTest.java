@@ -15,6 +15,8 @@ public final class SmallPolynomialsTest {
                 c[k] = left % 5 - 2;
                 left /= 5;
             }
+            // some on one object, so that what is left of the one before would be seen
+            x = code % 5 == 0 ? new IntegerSplitter() : x;
             if (!Expect.row(c).equals("[]")) {
                 matches(x, c);
             }
