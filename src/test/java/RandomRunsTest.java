@@ -3,7 +3,7 @@ import java.util.Arrays;
 import java.util.Random;
 
 /**
- * Promises 2 to 12 and 17 in runs of some 500 calls with right and wrong inputs, against a plain model in numbers
+ * Promises 2 to 12 and 17 in runs of 400 to 500 calls with right and wrong inputs, against a plain model in numbers
  * of any length; after each call what it writes is compared, at the end all. What factor tells is multiplied
  * together again.
  */
